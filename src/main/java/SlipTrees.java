@@ -1008,7 +1008,7 @@ public final class SlipTrees {
     }
 
     boolean isGhost(int thing) {
-      return ofThing(thing, GHOST) == 1;
+      return hasThing(thing) && things[thing * THING_ROW + GHOST] == 1;
     }
 
     boolean isSeen(int paper, int day) {
