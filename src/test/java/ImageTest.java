@@ -87,6 +87,42 @@ public final class ImageTest {
     due("the later image", x.of(1, 3), 7);
   }
 
+  /** An image of more, back from one of less on which other things were built. */
+  private static void lessAndMore() {
+    SlipTrees x = new SlipTrees();
+    x.image(1);
+    x.thing(1, 2, 3, 4, 5, 1);
+    x.thing(6, 6, 6, 6, 6, 0);
+    x.paper(10, 2, 3);
+    x.paper(20, 2, 3);
+    x.entry(1, 0, 11, 12, 13, 14, 6);
+    x.entry(0, 0, 21, 22, 23, 24, 7);
+    Tapes.law(x, "birth 70");
+    x.image(0);
+    x.back(1);
+    x.thing(9, 9, 9, 9, 9, 0);
+    x.thing(9, 9, 9, 9, 9, 0);
+    x.paper(30, 3, 0);
+    x.paper(30, 3, 0);
+    x.entry(0, 0, 1, 1, 1, 1, 1);
+    x.entry(0, 1, 1, 1, 1, 1, 1);
+    Tapes.law(x, "look 80");
+    x.back(0);
+    int[][] rows = {{1, 0, 0, 11, 12, 13, 14, 6}, {0, 0, 0, 21, 22, 23, 24, 7}};
+    for (int e = 0; e < 2; e++) {
+      for (int what = 0; what < 8; what++) {
+        due("of(" + e + ", " + what + ")", x.of(e, what), rows[e][what]);
+      }
+    }
+    due("list of the second paper", x.list(1, 0), 0);
+    due("list of the first paper", x.list(0, 0), 1);
+    due("not seen", x.least(0, 2, 0), -1);
+    due("born by law", x.least(0, 3, 0), 70);
+    due("source", x.source(1, 3, 0), 0);
+    due("lifted", x.from(0, 3), 1);
+    due("births", x.births(0, 3, -1), 1);
+  }
+
   /** The tape, the fault and the counts of what was refused are not kept. */
   private static void notKept() {
     SlipTrees x = told();
@@ -137,6 +173,7 @@ public final class ImageTest {
     wrong();
     all();
     imagesStay();
+    lessAndMore();
     notKept();
     room();
     CHECK.end();

@@ -35,6 +35,12 @@ public final class LawTest {
     fault("cost 1", 0);
     fault("  Bar", 2);
     fault("bars", 0);
+    fault("barz", 0);
+    fault("abar", 0);
+    fault("BAR", 0);
+    fault("bar{", 3);
+    fault("bar`", 3);
+    fault("slip 1:", 6);
     fault("ba r", 0);
     fault("if", 0);
     fault(";", 0);
@@ -69,6 +75,12 @@ public final class LawTest {
     fault("bar if 1", 8);
     fault("bar if 1 and near", 9);
     fault("bar if 1 < 2 < 3", 13);
+    fault("bar if 1 <", 10);
+    fault("bar if 1 < ; bar", 11);
+    fault("bar if [1] = and near", 13);
+    fault("bar if slip 1", 7);
+    fault("bar if claim", 12);
+    fault("bar if bar", 7);
     fault("bar if 1 < near", 11);
     fault("bar if (near", 12);
     fault("bar if (near]", 12);
@@ -139,6 +151,16 @@ public final class LawTest {
     }
     good(nots + "near");
     fault(nots.toString(), nots.length());
+  }
+
+  /** The limits are those of one text, not of all. */
+  private static void limitsOfOne() {
+    SlipTrees x = new SlipTrees();
+    String thirty = "slip 1+1+1+1+1+1+1+1+1+1+1+1+1+1+1+1+1+1+1+1+1+1+1+1+1+1+1+1+1+1";
+    due("thirty", Tapes.law(x, thirty + ";bar;bar;bar;bar;bar;bar;bar"), 0);
+    due("thirty more", Tapes.law(x, thirty + ";bar;bar;bar;bar;bar;bar;bar"), 1);
+    due("a fault", Tapes.fault(x, thirty + ";bar bar"), thirty.length() + 5);
+    due("thirty once more", Tapes.law(x, thirty), 2);
   }
 
   private static void texts() {
@@ -248,6 +270,13 @@ public final class LawTest {
     due("alike", slip(10, 20, "slip 1 if to=20"), 1);
     due("unlike", slip(10, 20, "slip 1 if to=21"), 9);
     due("not", slip(10, 20, "slip 1 if not drop"), 1);
+    due("not of what is so", slip(10, 20, "slip 1 if not near"), 9);
+    due("not of less", slip(10, 20, "slip 1 if not from<to"), 9);
+    due("not of more", slip(10, 20, "slip 1 if not to>from"), 9);
+    due("not of alike", slip(10, 20, "slip 1 if not 2=2"), 9);
+    due("not of swap", slip(10, 1, "slip 1 if not swap"), 9);
+    due("not of drop", slip(952, 52, "slip 1 if not drop"), 9);
+    due("not of kin", slip(10, 20, "slip 1 if not kin"), 1);
     due("not not", slip(10, 20, "slip 1 if not not drop"), 9);
     due("and", slip(10, 20, "slip 1 if near and drop"), 9);
     due("or", slip(10, 20, "slip 1 if near or drop"), 1);
@@ -277,6 +306,8 @@ public final class LawTest {
     due("birth asks no field", birth("birth " + all + "-900"), 100);
     due("birth of a ghost", birth("birth 1 if ghost"), 1);
     due("birth of no kind", birth("birth 1 if near or swap or drop or kin"), 20);
+    due("birth of no ghost", birth("birth 1 if not ghost"), 20);
+    due("look of no ghost", look("look 1 if not ghost"), 1);
     due("birth untold", birth("look 1;slip 1;open 1"), 20);
     due("look untold", look("birth 1;slip 1;open 1"), 5);
     due("look 0", look("look 0-5"), 0);
@@ -348,6 +379,21 @@ public final class LawTest {
     return threePapers(law).least(1, 0, 1);
   }
 
+  /** What one is asked of is not what another was asked of ahead of it. */
+  private static void askedAnew() {
+    SlipTrees x = new SlipTrees();
+    x.thing(10, 10, 10, 10, 4, 0);
+    x.paper(7, 0, 0);
+    x.paper(9, 0, 0);
+    x.entry(0, 0, 10, 20, 10, 10, 0);
+    x.entry(0, 0, 10, 20, 10, 10, 0);
+    x.entry(1, 0, 10, 20, 10, 30, 0);
+    Tapes.law(x, "look 100+from+to+field;slip 10+year+years;slip 500 if kin;look 900 if near or kin;open 2+thing+claim+to");
+    due("looked twice", x.least(0, 0, 0), 220);
+    due("lifted", x.least(1, 0, 0), 12);
+    due("looked", x.judge(1, 0, 0), 120);
+  }
+
   /** A law counts from when it is told. */
   private static void lawIsSeen() {
     SlipTrees x = threePapers("look 50");
@@ -367,6 +413,7 @@ public final class LawTest {
     tests();
     sums();
     limits();
+    limitsOfOne();
     texts();
     slips();
     lastThatHolds();
@@ -374,6 +421,7 @@ public final class LawTest {
     truth();
     entries();
     pairs();
+    askedAnew();
     lawIsSeen();
     CHECK.end();
   }

@@ -283,8 +283,8 @@ public final class LeastTest {
     x.paper(2, 0, 0);
     x.paper(3, 0, 2);
     x.entry(0, 0, 7, 7, 1000, 1000, 0);
-    x.entry(1, 0, 1000, 8, 6, 1000, 0);
-    x.entry(2, 0, 1000, 1000, 1000, 5, 0);
+    x.entry(1, 0, 1000, 8, 6, 1000, 5);
+    x.entry(2, 0, 1000, 1000, 1000, 5, 5);
     x.entry(0, 1, 7, 7, 1000, 1000, 0);
     Tapes.law(x, "look 500;slip 1;open 0");
     due("from the first", x.from(1, 2), 0);

@@ -51,6 +51,16 @@ public final class LineageTest {
     due("all born", x.births(1, 9, -1), 4);
   }
 
+  private static void theFirstEntry() {
+    SlipTrees x = new SlipTrees();
+    x.thing(2, 2, 2, 2, 4, 1);
+    x.paper(1, 0, 0);
+    x.entry(0, 0, 2, 2, 2, 2, 9);
+    due("one birth", x.births(0, 0, -1), 1);
+    due("the first entry", x.births(0, 0, 0), 0);
+    due("no second", x.births(0, 0, 1), -1);
+  }
+
   private static void drift() {
     SlipTrees x = told();
     due("looked: less the thing's", x.drift(0, 0), 5 - 3);
@@ -112,6 +122,7 @@ public final class LineageTest {
 
   public static void main(String[] args) {
     births();
+    theFirstEntry();
     drift();
     weight();
     longest();

@@ -124,6 +124,47 @@ public final class LookersTest {
     lookers(x, 2, 0, 1, 2);
   }
 
+  /**
+   * Looks that are dearer than lifts by unlike sums, told in no order: 3, 1, 2, 0, 4 more; each lift
+   * costs 5, that of thing t besides 1 if it is odd.
+   */
+  private static void inOrder() {
+    SlipTrees x = new SlipTrees();
+    for (int t = 0; t < 5; t++) {
+      x.thing(10, 10, 10, 10, 0, 0);
+    }
+    x.paper(1, 0, 0);
+    x.paper(2, 0, 0);
+    for (int t = 0; t < 5; t++) {
+      x.entry(0, t, 10, 10, 10, 10, 0);
+      x.entry(1, t, 20, 10, 10, 10, 0);
+    }
+    // In the second list a look costs 8, 7, 7, 6, 9 with its slip, a lift 5, 6, 5, 6, 5.
+    Tapes.law(x, "slip 5;slip 6 if thing=1 or thing=3;look 0;open 0");
+    Tapes.law(x, "look 3 if year=2 and thing=0;look 1 if year=2 and thing=1;look 2 if year=2 and thing=2");
+    Tapes.law(x, "look 0 if year=2 and thing=3;look 4 if year=2 and thing=4");
+    due("tree", x.tree(0, 0), 27);
+    lookers(x, 0, 0, 5, 6);
+    lookers(x, 1, 0, 5, 7);
+    lookers(x, 2, 0, 5, 7);
+    lookers(x, 3, 0, 5, 8);
+    lookers(x, 5, 0, 5, 8);
+    lookers(x, 6, 0, 5, 9);
+    lookers(x, 9, 0, 5, 9);
+    lookers(x, 10, 0, 5, 10);
+  }
+
+  /** The most that may be spent more, just enough and one too little, to look once less. */
+  private static void justEnough() {
+    for (int more = 39; more <= 41; more++) {
+      SlipTrees x = twoPapers();
+      Tapes.law(x, "look 0;open " + more);
+      due("tree", x.tree(0, 0), 0);
+      lookers(x, 40, 0, more <= 40 ? 2 : 4, 4);
+      lookers(x, 39, 0, more <= 39 ? 2 : 4, 4);
+    }
+  }
+
   private static void wrong() {
     SlipTrees x = twoPapers();
     due("slack -1", x.lookers(-1, 0, 0), -1);
@@ -163,6 +204,8 @@ public final class LookersTest {
     fewer();
     sets();
     ghosts();
+    inOrder();
+    justEnough();
     wrong();
     full();
     CHECK.end();
