@@ -1679,7 +1679,7 @@ public final class SlipTrees {
     private void joinLooked(int first) {
       for (int many = together.length - 1; many >= 0; many--) {
         int sum = Chooser.NO_WAY;
-        for (int more = 0; more < LOOKED_ROW && more <= many; more++) {
+        for (int more = 0; more < LOOKED_ROW && more <= many && first + more < looked.length; more++) {
           sum = Math.min(sum, together[many - more] + looked[first + more]);
         }
         together[many] = sum;
