@@ -100,11 +100,19 @@ public final class SlipTrees {
   }
 
   public int row(int paper) {
+    int became = readRow(paper);
+    // Whatever has come of it, a refusal too, the tape is empty then.
+    tape.length = 0;
+    return became < 0 ? refuse(became) : accept(became);
+  }
+
+  /** How many entries the tape's bytes became; what the row is refused by, if it is. */
+  private int readRow(int paper) {
     if (!told.hasPaper(paper)) {
-      return refuse(NO_SUCH);
+      return NO_SUCH;
     }
     if (tape.length == 0) {
-      return refuse(BAD_TEXT);
+      return BAD_TEXT;
     }
     int became = 0;
     for (int at = 0; at + ROW_BYTES <= tape.length; at += ROW_BYTES) {
@@ -112,9 +120,8 @@ public final class SlipTrees {
         became++;
       }
     }
-    tape.length = 0;
     leasts.forget();
-    return accept(became);
+    return became;
   }
 
   private boolean addFromTape(int paper, int at) {

@@ -126,6 +126,7 @@ final class Plain {
 
   int row(int paper) {
     if (!isPaper(paper)) {
+      tape.clear();
       return no(-2);
     }
     if (tape.isEmpty()) {

@@ -65,9 +65,6 @@ public final class TapeTest {
     due("status", x.status(), -6);
     due("no paper ahead of the empty tape", x.row(2), -2);
     Tapes.put(x, Tapes.ten(0, 5, 6, 7, 8, 9));
-    due("no paper", x.row(2), -2);
-    due("no paper -1", x.row(-1), -2);
-    due("tape stays", x.count(4), 10);
     Tapes.put(x, Tapes.ten(2, 5, 6, 7, 8, 9));
     Tapes.put(x, Tapes.ten(0, 10000, 6, 7, 8, 9));
     Tapes.put(x, Tapes.ten(0, 5, 10000, 7, 8, 9));
@@ -89,6 +86,34 @@ public final class TapeTest {
     due("nine bytes", x.row(1), 0);
     due("status of nine bytes", x.status(), 0);
     due("tape is empty then", x.count(4), 0);
+  }
+
+  /** The tape is empty behind a row that is refused, too. */
+  private static void refusedRows() {
+    int[] none = {2, -1, 16, Integer.MAX_VALUE, Integer.MIN_VALUE};
+    SlipTrees x = told();
+    for (int paper : none) {
+      Tapes.put(x, Tapes.ten(0, 5, 6, 7, 8, 9));
+      due("bytes ahead of row(" + paper + ")", x.count(4), 10);
+      due("row(" + paper + ")", x.row(paper), -2);
+      due("status of row(" + paper + ")", x.status(), -2);
+      due("bytes behind row(" + paper + ")", x.count(4), 0);
+      due("end behind row(" + paper + ")", x.end(1), -1);
+      due("row(0) behind row(" + paper + ")", x.row(0), -6);
+    }
+    due("refused by -2", x.count(6), none.length);
+    due("refused by -6", x.count(9), none.length);
+    due("entries", x.count(2), 0);
+    for (int i = 0; i < 20; i++) {
+      x.feed(0, 0, 0, 0, 0);
+    }
+    due("a full tape, no paper", x.row(2), -2);
+    due("feed behind it", x.feed(0, 0, 0, 0, 0), 20);
+    due("the row behind it", x.row(0), 2);
+    Tapes.text(x, "slip 1");
+    due("a text, no paper", x.row(2), -2);
+    due("law behind it", x.law(), -6);
+    due("fault of the empty tape", x.fault(), 0);
   }
 
   private static void room() {
@@ -129,6 +154,7 @@ public final class TapeTest {
     feedAndEnd();
     order();
     rows();
+    refusedRows();
     room();
     rowIsSeen();
     CHECK.end();

@@ -178,7 +178,7 @@ public final class ToldTest {
     x.image(2);
     x.back(1);
     x.row(3);
-    x.row(0);
+    due("count(4) behind a row that is refused", x.count(4), 0);
     x.row(0);
     Tapes.law(x, "slip");
     due("count of -1", x.count(5), 1);
