@@ -153,6 +153,20 @@ public final class LawTest {
     fault(nots.toString(), nots.length());
   }
 
+  /** Long texts, one behind the other, those that can't be too: each tells what it says. */
+  private static void longTexts() {
+    SlipTrees x = new SlipTrees();
+    x.thing(1, 1, 1, 1, 0, 0);
+    x.paper(0, 0, 0);
+    x.entry(0, 0, 1, 1, 1, 1, 0);
+    String ones = "1+1+1+1+1+1+1+1+1+1+1+1+1+1+1+1+1+1+1+1+1+1+1+1+1+1+1+1+1+1+1+1+1+1+1+1+1+1+1+1+1+1+1+1+1+1+1+1";
+    for (int i = 1; i <= 20; i++) {
+      due("a long text that can't be", Tapes.fault(x, "look 7+" + ones + "+"), 8 + ones.length());
+      due("a long text", Tapes.law(x, "look " + 10 * i + "+" + ones), i - 1);
+      due("what it tells", x.least(0, 0, 0), 10 * i + 48);
+    }
+  }
+
   /** The limits are those of one text, not of all. */
   private static void limitsOfOne() {
     SlipTrees x = new SlipTrees();
@@ -414,6 +428,7 @@ public final class LawTest {
     sums();
     limits();
     limitsOfOne();
+    longTexts();
     texts();
     slips();
     lastThatHolds();

@@ -198,6 +198,27 @@ public final class LookersTest {
     lookers(x, 27, 0, 12, 120);
   }
 
+  /** Twelve looks in one list, each dearer than its lift by 1: each spends just that. */
+  private static void twelve() {
+    SlipTrees x = new SlipTrees();
+    x.thing(1, 1, 1, 1, 0, 0);
+    x.paper(0, 0, 0);
+    x.paper(1, 0, 0);
+    x.entry(0, 0, 1, 1, 1, 1, 0);
+    for (int i = 0; i < 12; i++) {
+      x.entry(1, 0, 1, 1, 1, 1, 0);
+    }
+    Tapes.law(x, "look 1;open 0");
+    due("tree", x.tree(0, 0), 1);
+    for (int slack = 0; slack <= 40; slack++) {
+      lookers(x, slack, 0, 1, 1 + Math.min(slack, 12));
+    }
+    Tapes.law(x, "look 4 if year = 1;open 1");
+    for (int slack = 0; slack <= 40; slack++) {
+      lookers(x, slack, 0, 1, 1 + slack / 4);
+    }
+  }
+
   public static void main(String[] args) {
     slack();
     together();
@@ -208,6 +229,7 @@ public final class LookersTest {
     justEnough();
     wrong();
     full();
+    twelve();
     CHECK.end();
   }
 }

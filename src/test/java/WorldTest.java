@@ -74,6 +74,42 @@ public final class WorldTest {
     }
   }
 
+  /**
+   * One thing in eight papers by its draws alone, where nothing may be lifted and a slip costs what the
+   * field's last three digits are: the sum tells what each field has become.
+   */
+  private static void fields() {
+    SlipTrees x = new SlipTrees();
+    int[] right = {9876, 1950, 4321, 7};
+    x.thing(right[0], right[1], right[2], right[3], 0, 0);
+    Tapes.law(x, "look 0;bar;slip to-to/1000*1000");
+    for (int seed = 0; seed < 40; seed++) {
+      Draws d = new Draws(seed * 25000 + 7);
+      int[][] having = new int[8][];
+      int many = 0;
+      int sum = 0;
+      for (int paper = 0; paper < 8; paper++) {
+        d.next(2);
+        if (d.next(3) == 0) {
+          continue;
+        }
+        boolean looks = paper == 0 || d.next(4) == 0 || many == 0;
+        int[] fields = (looks ? right : having[d.next(many)]).clone();
+        if (d.next(6) == 0) {
+          int field = d.next(4);
+          fields[field] = (fields[field] * 7 + d.next(10000)) % 10000;
+        }
+        having[many] = fields;
+        many++;
+        for (int field = 0; field < 4; field++) {
+          sum += fields[field] == right[field] ? 0 : fields[field] % 1000;
+        }
+      }
+      due("entries by draws", x.world(seed * 25000 + 7, 8, 0), many);
+      due("sum by draws", x.world(seed * 25000 + 7, 8, 3), sum);
+    }
+  }
+
   /** If looking costs nothing, all is looked; if it is dear, all that may be is lifted. */
   private static void tried() {
     SlipTrees x = new SlipTrees();
@@ -166,6 +202,7 @@ public final class WorldTest {
   public static void main(String[] args) {
     byHand();
     oneThing();
+    fields();
     tried();
     compared();
     apart();
