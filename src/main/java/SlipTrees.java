@@ -169,11 +169,13 @@ public final class SlipTrees {
   }
 
   public int law() {
-    if (told.textCount >= Book.TEXTS) {
+    boolean room = told.textCount < Book.TEXTS;
+    Text text = room ? reader.read() : null;
+    // Whatever has come of it, a refusal too, the tape is empty then.
+    tape.length = 0;
+    if (!room) {
       return refuse(NO_ROOM);
     }
-    Text text = reader.read();
-    tape.length = 0;
     if (text == null) {
       fault = reader.place;
       return refuse(BAD_TEXT);

@@ -188,17 +188,48 @@ public final class LawTest {
     Tapes.text(x, "what");
     due("a text too many", x.law(), -5);
     due("fault of a text that was not read", x.fault(), -1);
-    due("tape of a text that was not read", x.count(4), 4);
+    due("tape of a text that was not read", x.count(4), 0);
     due("status", x.status(), -5);
     due("count of -5", x.count(8), 1);
     due("count of -6", x.count(9), 1);
     due("texts", x.count(3), 20);
+    due("an empty tape, a text too many", x.law(), -5);
+    fullTape(x);
     SlipTrees y = new SlipTrees();
     Tapes.fault(y, "bar;bar;x");
     due("fault stays", y.fault(), 8);
     y.feed(0, 0, 0, 0, 0);
     y.end(0);
     due("fault still stays", y.fault(), 8);
+  }
+
+  /** With 20 TEXTS, each law leaves an empty tape and the fault of the latest text that was read. */
+  private static void fullTape(SlipTrees x) {
+    for (int i = 0; i < 20; i++) {
+      x.feed(0, 0, 0, 0, 0);
+    }
+    due("feed beyond a full tape", x.feed(0, 0, 0, 0, 0), -1);
+    due("law of a full tape, a text too many", x.law(), -5);
+    due("end behind it", x.end(1), -1);
+    due("feed behind it", x.feed(0, 0, 0, 0, 0), 20);
+    due("row behind it", x.row(0), -2);
+    SlipTrees y = new SlipTrees();
+    for (int i = 0; i < 19; i++) {
+      Tapes.law(y, "bar");
+    }
+    y.image(0);
+    due("the twentieth", Tapes.law(y, "bar"), 19);
+    y.image(1);
+    y.back(0);
+    due("a fault", Tapes.fault(y, "bar 5"), 4);
+    due("fault's tape", y.count(4), 0);
+    y.back(1);
+    due("a text too many behind an image", Tapes.law(y, "look"), -5);
+    due("fault of the latest that was read", y.fault(), 4);
+    due("tape behind an image", y.count(4), 0);
+    y.back(0);
+    due("a text that is read again", Tapes.law(y, "look 5"), 19);
+    due("fault of a text without", y.fault(), -1);
   }
 
   // What heads tell. A slip from u to v in field 2 of thing 1 (claim 4, no ghost) is asked by apart.

@@ -18,6 +18,7 @@ public final class OracleTest {
   private final String name;
   private boolean alike = true;
   private int mostFields = 9999;
+  private boolean texts = false;
 
   private OracleTest(int seed, Check check) {
     this.random = new Random(seed);
@@ -210,11 +211,16 @@ public final class OracleTest {
     if (text.length() > 400) {
       text = text.substring(0, 400);
     }
-    call("end", 0);
+    // Now and then what an earlier call has left on the tape stands ahead of the text.
+    if (!chance(5)) {
+      call("end", 0);
+    }
+    int before = y.count(4);
     put(text.chars().toArray());
-    call("end", Math.min(text.length(), y.count(4)));
+    call("end", Math.min(before + text.length(), y.count(4)));
     call("law");
     call("fault");
+    call("count", 4);
   }
 
   // Questions.
@@ -271,6 +277,15 @@ public final class OracleTest {
     }
   }
 
+  /** Nearly as many short texts as there is room for, so that later ones find none. */
+  private void allTexts() {
+    for (int i = y.count(3); i < 18; i++) {
+      call("end", 0);
+      put((pick("slip ", "look ", "open ", "birth ") + upTo(30)).chars().toArray());
+      call("law");
+    }
+  }
+
   private void run(int papers, int things, int entries, int days, int calls) {
     for (int i = 0; i < things; i++) {
       thing(4);
@@ -284,6 +299,9 @@ public final class OracleTest {
     for (int i = random.nextInt(4); i > 0; i--) {
       law();
     }
+    if (texts) {
+      allTexts();
+    }
     while (history.size() < calls && alike) {
       any(papers, things, days);
     }
@@ -296,6 +314,7 @@ public final class OracleTest {
     for (int seed = first; seed < first + runs && !check.anyFailed(); seed++) {
       OracleTest t = new OracleTest(seed, check);
       t.mostFields = seed % 3 == 0 ? 3 : seed % 3 == 1 ? 40 : 9999;
+      t.texts = seed % 10 == 7;
       if (seed % 20 == 19) {
         t.run(16, 8, 120, 99, 320);
       } else {

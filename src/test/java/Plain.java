@@ -192,12 +192,12 @@ final class Plain {
   }
 
   int law() {
-    if (now.laws.size() == 20) {
-      return no(-5);
-    }
     StringBuilder text = new StringBuilder();
     tape.forEach(b -> text.append((char) (int) b));
     tape.clear();
+    if (now.laws.size() == 20) {
+      return no(-5);
+    }
     try {
       now.laws.add(new Parser(text.toString()).text());
       fault = NONE;
