@@ -100,6 +100,14 @@ public final class EdgeGrammarTest {
   }
 
   private static void clauses() {
+    says("FAULT: the first TOKEN that can't go on there (the end's: the TEXT's length).");
+    fault("slip 1 1 1", 7);
+    fault("bar x y", 4);
+    fault("bar if ) )", 7);
+    fault("slip", 4);
+    fault("slip   ", 7);
+    fault("slip 1 +    ", 12);
+    fault("bar if (near", 12);
     says("CLAUSE {\";\" CLAUSE}");
     goesOn(END, false, HEADS);
     goesOn("bar;", false, HEADS);
@@ -159,7 +167,8 @@ public final class EdgeGrammarTest {
       goesOn("bar if 1 " + sign, false, PARTS);
       goesOn("bar if 1 " + sign + " 1", false, "< > = " + SIGNS);
     }
-    says("PART: NUMBER | \"[\" SUM \"]\" | \"field\" | \"from\" | \"to\" | \"year\" | \"years\" | \"thing\" | \"claim\".");
+    says("PART: NUMBER | \"[\" SUM \"]\" | \"field\" | \"from\" | \"to\" | \"year\" | \"years\" | \"thing\""
+        + " | \"claim\".");
     for (String part : "7 field from to year years thing claim".split(" ")) {
       goesOn("slip " + part, true, "if ; " + SIGNS);
       goesOn("bar if " + part, false, "< > = " + SIGNS);
@@ -268,8 +277,14 @@ public final class EdgeGrammarTest {
     due("bytes", text.length(), 400);
     due("law", Tapes.law(x, text), 0);
     due("what it tells", x.least(0, 0, 0), 101);
+    String fifty = "look [100]" + "+1".repeat(49);
+    for (int i = 1; i < 20; i++) {
+      due("a long text that can't be", Tapes.law(x, fifty + "+1" + " ".repeat(290)), -6);
+      due("its fault", x.fault(), 109);
+      due("a long text", Tapes.law(x, fifty.replace("100", "" + (100 + i)) + " ".repeat(292)), i);
+      due("what it tells", x.least(0, 0, 0), 149 + i + 1);
+    }
     fault(" ".repeat(399) + "x", 399);
-    fault(" ".repeat(400), 400);
     fault("bar" + " ".repeat(396) + "x", 399);
     fault("bar" + " ".repeat(396) + ";", 400);
     fault("bar if " + "not ".repeat(98), 399);

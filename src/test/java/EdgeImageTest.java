@@ -23,8 +23,9 @@ public final class EdgeImageTest {
         x.entry(p, (p + i) % things, by + (p + i) % things, by + p, by, by + i, (by + p + i) % 10);
       }
     }
+    String[] laws = {"look " + (by + 7), "bar if not kin", "open " + by % 5, "slip 1 if near"};
     for (int i = 0; i < texts; i++) {
-      Tapes.law(x, i == 0 ? "look " + (by + 7) : i == 1 ? "bar if not kin" : i == 2 ? "open " + by % 5 : "slip 1 if near");
+      Tapes.law(x, laws[Math.min(i, 3)]);
     }
   }
 
@@ -48,8 +49,8 @@ public final class EdgeImageTest {
     for (int what = 0; what < 4; what++) {
       s.append(' ').append(x.tree(3, what)).append(' ').append(x.world(12345, 4, what));
     }
-    s.append(' ').append(x.lookers(9, 3, 0)).append(' ').append(x.lookers(9, 3, 1)).append(' ').append(x.births(1, 3, -1));
-    return s.toString();
+    s.append(' ').append(x.lookers(9, 3, 0)).append(' ').append(x.lookers(9, 3, 1));
+    return s.append(' ').append(x.births(1, 3, -1)).toString();
   }
 
   private static void same(String what, String got, String want) {
@@ -254,6 +255,34 @@ public final class EdgeImageTest {
     due("by it", x.least(0, 1, 0), 44);
   }
 
+  /** Lists, things and laws are those of the image, though others have been told in their places since. */
+  private static void toldOtherwise() {
+    says("BACK to one all is as it was then");
+    SlipTrees x = new SlipTrees();
+    x.image(1);
+    tell(x, 3, 3, 2, 10);
+    x.image(0);
+    x.back(1);
+    x.thing(9, 8, 7, 6, 5, 0);
+    for (int p = 0; p < 4; p++) {
+      x.paper(40 - p, 3 - p, 0);
+    }
+    for (int e = 0; e < 12; e++) {
+      x.entry(3 - e % 4, 0, 6, 7, 8, 9, 4);
+    }
+    Tapes.law(x, "look 77;open 66;birth 55;slip 44");
+    Tapes.law(x, "bar;bar;bar");
+    x.back(0);
+    SlipTrees like = new SlipTrees();
+    tell(like, 3, 3, 2, 10);
+    same("image 0", all(x), all(like));
+    for (int p = 0; p < 3; p++) {
+      for (int i = 0; i < 3; i++) {
+        due("list(" + p + ", " + i + ")", x.list(p, i), 3 * p + i);
+      }
+    }
+  }
+
   /** What was asked ahead of back, or of image, is no answer behind it. */
   private static void askedAnew() {
     says("BACK to one all is as it was then");
@@ -320,6 +349,7 @@ public final class EdgeImageTest {
     howManyWereRefused();
     imagesStay();
     ofNothing();
+    toldOtherwise();
     askedAnew();
     toTheLastCall();
     EDGE.end();

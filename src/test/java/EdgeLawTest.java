@@ -162,6 +162,12 @@ public final class EdgeLawTest {
 
   private static void notAskedOf() {
     says("what it is not asked of is 0, not so.");
+    int[] was = {5, 5, 50, 5};
+    int[] is = {6, 50, 0, 7};
+    for (int kind = 0; kind < 4; kind++) {
+      due("kin of a slip of kind " + (kind + 1), slip(1, was[kind], is[kind], "slip 1;slip 2 if kin"), 1);
+      due("ghost of a slip of kind " + (kind + 1), slip(1, was[kind], is[kind], "slip 1;slip 2 if ghost"), 1);
+    }
     for (String word : "year years".split(" ")) {
       due(word + " of a slip", slip("slip 500+" + word), 500);
     }
@@ -296,18 +302,21 @@ public final class EdgeLawTest {
 
   /** so, no and bad are tests that are so, not so, and BROKEN. */
   private static void onlyIfItMatters() {
-    says("(\"or\", \"and\" ask what stands behind only if it can still matter; a part that was asked and is BROKEN makes"
-        + " all of it BROKEN)");
-    String[] so = {"so", "not no", "so or bad", "no or so", "so or no", "so and so", "no and bad or so", "so or so and bad",
-        "not (no and bad)", "not (no and bad and bad)", "(so or bad) and so", "(so or bad) and (so or bad)",
-        "so and (so or bad)", "no or so or bad", "no and bad and bad or so or bad", "not not so", "not (no or no)",
-        "so and so or bad", "not no and so", "not no or bad", "no and so or so", "so or no and no", "not (no or no and bad)"};
-    String[] not = {"no", "not so", "no and bad", "no or no", "so and no", "no and so", "not (so or bad)", "no or no and bad",
-        "(no and bad) or no", "no and bad or no and bad", "so and no and bad", "not so and bad", "no and (so or bad)",
-        "(so or bad) and no", "not not no", "(so or so) and no", "no and so or no", "not so or no", "not (so and so)"};
-    String[] bad = {"bad", "not bad", "bad or so", "bad and no", "no or bad", "so and bad", "not (so and bad)", "not (no or bad)",
-        "no or bad or so", "so and bad or so", "so and bad and no", "bad and no or so", "not (bad or so)", "(no or bad) or so",
-        "(so and bad) or so", "not (not bad)", "no and bad or bad or so", "not so or bad", "not no and bad", "not bad or so"};
+    says("(\"or\", \"and\" ask what stands behind only if it can still matter; a part that was asked and is BROKEN"
+        + " makes all of it BROKEN)");
+    String[] so = ("so; not no; so or bad; no or so; so or no; so and so; no and bad or so; so or so and bad;"
+        + " not (no and bad); not (no and bad and bad); (so or bad) and so; (so or bad) and (so or bad);"
+        + " so and (so or bad); no or so or bad; no and bad and bad or so or bad; not not so; not (no or no);"
+        + " so and so or bad; not no and so; not no or bad; no and so or so; so or no and no;"
+        + " not (no or no and bad)").split("; ");
+    String[] not = ("no; not so; no and bad; no or no; so and no; no and so; not (so or bad); no or no and bad;"
+        + " (no and bad) or no; no and bad or no and bad; so and no and bad; not so and bad; no and (so or bad);"
+        + " (so or bad) and no; not not no; (so or so) and no; no and so or no; not so or no;"
+        + " not (so and so)").split("; ");
+    String[] bad = ("bad; not bad; bad or so; bad and no; no or bad; so and bad; not (so and bad); not (no or bad);"
+        + " no or bad or so; so and bad or so; so and bad and no; bad and no or so; not (bad or so); (no or bad) or so;"
+        + " (so and bad) or so; not (not bad); no and bad or bad or so; not so or bad; not no and bad;"
+        + " not bad or so").split("; ");
     for (String test : so) {
       same(test, 7);
     }
@@ -329,6 +338,34 @@ public final class EdgeLawTest {
     due("if " + words, slip("slip 7 if " + words), want);
   }
 
+  /** Each plain that is so, by itself and turned. */
+  private static void eachPlain() {
+    says("PLAIN: \"not\" PLAIN");
+    for (String plain : "near 5<6 6>5 5=5 from<to to>from to=6 (near) (5<6)".split(" ")) {
+      plain(plain, slip(1, 5, 6, laws("slip", plain)));
+    }
+    plain("swap", slip(1, 5, 50, laws("slip", "swap")));
+    plain("drop", slip(1, 50, 0, laws("slip", "drop")));
+    plain("ghost", told(0, 5, 6, 4, laws("birth", "ghost")).judge(0, 0, 0));
+    plain("kin", told(0, 5, 5, 3, laws("open", "kin")).judge(1, 1, 0));
+    plain("years = 100", told(0, 5, 5, 3, laws("open", "years = 100")).judge(1, 1, 0));
+  }
+
+  private static void plain(String plain, int got) {
+    due("the last that holds of those with " + plain, got, 7);
+  }
+
+  /** Laws with a plain that is so: those that tell 1 to 7 hold, those behind them do not. */
+  private static String[] laws(String head, String so) {
+    String[] ifs = {so, "not not " + so, so + " and " + so, so + " or 1/0=1", "not (not " + so + ")", "1=2 or " + so,
+        "1=1 and " + so, "not " + so, "not (" + so + ")", "1=2 or not " + so, "not not not " + so};
+    String[] laws = new String[ifs.length];
+    for (int i = 0; i < ifs.length; i++) {
+      laws[i] = head + " " + (i + 1) + " if " + ifs[i];
+    }
+    return laws;
+  }
+
   private static void lastThatHolds() {
     says("What a HEAD tells: of the last that HOLDS (TEXTS as told, CLAUSES in order)");
     due("the last clause", slip("slip 1;slip 2;slip 3"), 3);
@@ -336,7 +373,8 @@ public final class EdgeLawTest {
     due("the last that holds", slip("slip 1;slip 2", "slip 3;slip 4 if near", "slip 5/0;slip 6 if kin"), 3);
     due("the first of all", slip("slip 1;slip 2 if near", "slip 3 if near;slip 4/0"), 1);
     due("ahead of other heads", slip("slip 1;look 2;open 3;birth 4;bar", "look 5", "bar"), 1);
-    due("the twelfth", slip("slip 1;slip 2;slip 3;slip 4;slip 5;slip 6;slip 7;slip 8;slip 9;slip 10;slip 11;slip 12"), 12);
+    due("the twelfth", slip("slip 7;".repeat(11) + "slip 12"), 12);
+    due("the first of twelve", slip("slip 12" + ";slip 7/0".repeat(11)), 12);
     String[] twenty = new String[20];
     for (int i = 0; i < 20; i++) {
       twenty[i] = "slip " + (100 + i);
@@ -364,8 +402,9 @@ public final class EdgeLawTest {
 
   private static void without() {
     says("Without one: a \"slip\" 9, a \"look\" 5, an \"open\" 3, a \"birth\" 20.");
-    String[] laws = {null, "bar if near", "slip 1/0;look 1/0;open 1/0;birth 1/0", "slip 1 if kin;look 1 if kin;birth 1 if kin"
-        + ";open 1 if ghost", "look 1 if ghost;birth 1 if near;open 1 if not kin;slip 1 if ghost"};
+    String[] laws = {null, "bar if near", "slip 1/0;look 1/0;open 1/0;birth 1/0",
+        "slip 1 if kin;look 1 if kin;birth 1 if kin;open 1 if ghost",
+        "look 1 if ghost;birth 1 if near;open 1 if not kin;slip 1 if ghost"};
     for (String law : laws) {
       String[] all = law == null ? new String[0] : new String[] {law};
       due("slip, law " + law, slip(all), 9);
@@ -392,6 +431,7 @@ public final class EdgeLawTest {
     cutTowards0();
     holds();
     onlyIfItMatters();
+    eachPlain();
     lastThatHolds();
     nearest();
     without();

@@ -268,8 +268,8 @@ public final class EdgeLeastTest {
   }
 
   private static void lifted() {
-    says("LIFTED from an ENTRY of the same THING of a SOURCE: of each FIELD that is another one what \"slip\" tells (the"
-        + " CLAIM is of no matter)");
+    says("LIFTED from an ENTRY of the same THING of a SOURCE: of each FIELD that is another one what \"slip\" tells"
+        + " (the CLAIM is of no matter)");
     for (int unlike = 0; unlike <= 4; unlike++) {
       SlipTrees x = things(1, 0);
       x.paper(1, 0, 0);
@@ -333,6 +333,32 @@ public final class EdgeLeastTest {
     least("both for nothing", x, 2, 0, 2, 3);
     x.paper(0, 0, 0);
     least("an empty list", x, 3, 0, 0, 0);
+  }
+
+  /** Each of nine sources has a thing of its own; the last one's is opened for more than a look. */
+  private static void allChosen() {
+    says("of all ways to choose some of its SOURCES and for each ENTRY to be LOOKED (BORN) or LIFTED from an ENTRY of a"
+        + " chosen one");
+    SlipTrees x = things(5, 3);
+    x.paper(399, 0, 0);
+    for (int p = 1; p <= 9; p++) {
+      x.paper(p, 0, 0);
+      entry(x, p, Math.min(p - 1, 7), 4, p);
+    }
+    for (int i = 0; i < 9; i++) {
+      entry(x, 0, Math.min(i, 7), 4, i + 1);
+    }
+    Tapes.law(x, "birth 50");
+    least("all nine", x, 0, 27, 9, 511);
+    for (int i = 0; i < 9; i++) {
+      due("from", x.from(9 + i, 0), i);
+    }
+    Tapes.law(x, "open 42 if years = 394");
+    least("all but the fifth", x, 0, 24 + 41, 9, 511 - 16);
+    Tapes.law(x, "open 40 if years > 393");
+    least("the fifth, too", x, 0, 5 * 40 + 12, 9, 511);
+    Tapes.law(x, "open 1000");
+    least("none", x, 0, 5 * 41 + 4 * 50, 9, 0);
   }
 
   private static void fewest() {
@@ -592,6 +618,7 @@ public final class EdgeLeastTest {
     lifted();
     born();
     leastSum();
+    allChosen();
     fewest();
     lowestBits();
     lowestBitsAsANumber();

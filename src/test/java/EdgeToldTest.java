@@ -69,6 +69,8 @@ public final class EdgeToldTest {
     due("the first entry", entry(x, 0, 0), 0);
     due("no law", x.least(0, 0, 0), 5);
     due("the first text", Tapes.law(x, "look 60"), 0);
+    says("`NONE = -1`: There is none.");
+    due("NONE", SlipTrees.NONE, -1);
   }
 
   // Terms I, promises 2 to 4.
@@ -272,6 +274,40 @@ public final class EdgeToldTest {
     due("the last that there is", entry(z, 1, 1), 0);
   }
 
+  /** Each call that can be REFUSED, by each number that its promise names, and by no other one. */
+  private static void eachRefusal() {
+    says("-1 a number that can't be; -2 there is no such THING, PAPER, IMAGE; -3 it can't be by what stands; -5 no"
+        + " room; -6 a TEXT, a ROW that can't be.");
+    SlipTrees x = told(7, 16);
+    refused("thing: -1", x, x.thing(5, 5, 5, 5, 10, 0), -1);
+    x = told(8, 16);
+    refused("thing: -5", x, x.thing(5, 5, 5, 5, 5, 0), -5);
+    x = told(8, 15);
+    refused("paper: -1", x, x.paper(400, 0, 0), -1);
+    x = told(8, 16);
+    refused("paper: -5", x, x.paper(0, 0, 0), -5);
+    says("An ENTRY: its number. -1; -2; -5 (its LIST's, or in all).");
+    x = told(1, 1);
+    refused("entry: -1", x, x.entry(0, 0, 10000, 5, 5, 5, 5), -1);
+    x = told(1, 1);
+    refused("entry: -2", x, entry(x, 1, 0), -2);
+    x = full();
+    refused("entry: -5 of its list", x, entry(x, 0, 0), -5);
+    x = full();
+    refused("entry: -5 in all", x, entry(x, 10, 0), -5);
+    says("-6 a TEXT, a ROW that can't be.");
+    x = told(1, 1);
+    refused("row: -6", x, x.row(0), -6);
+    x = told(1, 1);
+    refused("law: -6", x, Tapes.law(x, "bar 1"), -6);
+    x = new SlipTrees();
+    refused("law: -6 of an empty tape", x, x.law(), -6);
+    x = told(1, 1);
+    refused("image: -1", x, x.image(2), -1);
+    x = told(1, 1);
+    refused("back: -1", x, x.back(-1), -1);
+  }
+
   private static void orderOfRefusals() {
     says("The first of these in that order.");
     SlipTrees x = told(8, 16);
@@ -473,6 +509,7 @@ public final class EdgeToldTest {
     mostOfAList();
     numbersOfEntries();
     noSuch();
+    eachRefusal();
     orderOfRefusals();
     nothingChanges();
     of();

@@ -272,6 +272,39 @@ public final class EdgeTreeTest {
     lookers("three seen, again", x, 40, 8, 1, 3);
   }
 
+  /** Looks of one list that are dearer than lifts by 3, 1, 2, 0, 4: the cheapest of them come first. */
+  private static void cheapestFirst() {
+    says("are LOOKED at least and at most.");
+    SlipTrees x = things(5, 0);
+    x.paper(1, 0, 0);
+    x.paper(2, 0, 0);
+    for (int t = 0; t < 5; t++) {
+      right(x, 0, t);
+      x.entry(1, t, 7, 1000, 1000, 1000, 5);
+    }
+    Tapes.law(x, "open 0;slip 10+thing;look 0;look 3 if year = 2 and thing = 0;look 1 if year = 2 and thing = 1");
+    Tapes.law(x, "look 2 if year = 2 and thing = 2;look 4 if year = 2 and thing = 4");
+    due("sum", x.tree(0, 0), 10 + 11 + 12 + 13 + 14);
+    int[] most = {6, 7, 7, 8, 8, 8, 9, 9, 9, 9, 10, 10};
+    for (int slack = 0; slack < most.length; slack++) {
+      lookers("one after the other", x, slack, 0, 5, most[slack]);
+    }
+    lookers("all", x, 40, 0, 5, 10);
+    SlipTrees y = things(3, 0);
+    y.paper(1, 0, 0);
+    y.paper(2, 0, 0);
+    for (int t = 0; t < 3; t++) {
+      y.entry(0, t, 7, 1000, 1000, 1000, 5);
+      right(y, 1, t);
+    }
+    Tapes.law(y, "look 0;open 0;slip 3 if thing = 0;slip 1 if thing = 1;slip 2 if thing = 2");
+    due("sum", y.tree(0, 0), 6);
+    int[] least = {6, 5, 5, 4, 4, 4, 3, 3};
+    for (int slack = 0; slack < least.length; slack++) {
+      lookers("lifts dearer by 3, 1, 2", y, slack, 0, least[slack], 6);
+    }
+  }
+
   private static void ghostsApart() {
     says("how many ENTRIES (GHOSTS' apart) are LOOKED at least and at most.");
     SlipTrees x = things(1, 1);
@@ -371,8 +404,8 @@ public final class EdgeTreeTest {
   // DRIFT.
 
   private static void drift() {
-    says("DRIFT: of an ENTRY that is LIFTED its CLAIM less that from which it is; of one LOOKED less the THING's; of one"
-        + " BORN 0.");
+    says("DRIFT: of an ENTRY that is LIFTED its CLAIM less that from which it is; of one LOOKED less the THING's;"
+        + " of one BORN 0.");
     int[][] claims = {{5, 5, 5}, {0, 9, 0}, {9, 0, 9}, {3, 4, 6}, {9, 9, 0}, {0, 0, 9}};
     for (int[] c : claims) {
       for (int ghost = 0; ghost < 2; ghost++) {
@@ -441,6 +474,21 @@ public final class EdgeTreeTest {
     due("where nothing is told", new SlipTrees().weight(0, 0), -1);
   }
 
+  /** Papers told in the other order of their years: the first entry comes from the last one. */
+  private static void lastIsFirst() {
+    says("how many come from it");
+    SlipTrees x = things(1, 0);
+    for (int p = 0; p < 3; p++) {
+      x.paper(9 - p, 0, 0);
+      wrong(x, p, 0, 7);
+    }
+    Tapes.law(x, "bar if years = 2");
+    for (int e = 0; e < 3; e++) {
+      due("from of " + e, x.from(e, 0), e < 2 ? e + 1 : -1);
+      due("weight of " + e, x.weight(e, 0), e);
+    }
+  }
+
   private static void longestWay() {
     says("directly or not");
     SlipTrees x = things(1, 0);
@@ -467,12 +515,14 @@ public final class EdgeTreeTest {
     allWays();
     whateverTheyCost();
     sumsTogether();
+    cheapestFirst();
     ghostsApart();
     mostLookers();
     births();
     bornLater();
     drift();
     weight();
+    lastIsFirst();
     longestWay();
     EDGE.end();
   }

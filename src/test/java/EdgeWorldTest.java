@@ -144,7 +144,9 @@ public final class EdgeWorldTest {
 
   private static final int[][] SEEDS = {{0, 1, 2, 3, 5, 8, 13, 21, 34, 55, 89, 144, 233, 377, 610, 987},
       {999_984, 999_990, 999_991, 999_992, 999_993, 999_994, 999_995, 999_996, 999_997, 999_998, 999_999, 1_000_000},
-      {7_919, 65_535, 65_536, 104_729, 250_000, 333_333, 500_000, 500_001, 666_667, 777_777, 868_686, 912_345}};
+      {7_919, 65_535, 65_536, 104_729, 250_000, 333_333, 500_000, 500_001, 666_667, 777_777, 868_686, 912_345},
+      // The first, second or third new s of these is 0, 1, 1,000,001 or 1,000,002.
+      {870_345, 413_408, 784_216, 327_279, 230_153, 434_557, 764_479, 294_128}};
 
   /** Tells things: each of four digits all alike by its number, but ghosts where the word says g. */
   private static int[][] tell(SlipTrees x, String things) {
@@ -226,6 +228,42 @@ public final class EdgeWorldTest {
     due("looked", y.world(0, 2, 2), 1);
   }
 
+  /** 311,242 times 1103 and 12345 is 311,242 again: each DRAW of 2, 3, 4, 6 is 0, 1, 2, 4. */
+  private static void drawsAllAlike() {
+    says("Its LIST: for each THING t in order: a DRAW of 3: at 0 it is not in it; else, if k is 0, or a DRAW of 4 is 0"
+        + " (DRAWN if k is not 0 alone), or none of the PAPERS ahead has it: LOOKED: right; else LIFTED: from the PAPER"
+        + " that a DRAW of as many as have it tells (of those ahead that have it, in order).");
+    SlipTrees x = new SlipTrees();
+    tell(x, "tgtt");
+    // The lists are lifted from papers 0, 0, 1, 2, 2, 4, 1, but all are right, so that by LEASTS all are from paper 0.
+    int[] right = {0, 0, 6, 9, 9, 9, 9, 9, 9};
+    for (int papers = 2; papers <= 8; papers++) {
+      due("entries of " + papers + " papers", x.world(311_242, papers, 0), 3 * papers);
+      due("right of " + papers + " papers", x.world(311_242, papers, 1), right[papers]);
+      due("looked of " + papers + " papers", x.world(311_242, papers, 2), 3);
+      due("sum of " + papers + " papers", x.world(311_242, papers, 3), 15 + 3 * (papers - 1));
+    }
+    Tapes.law(x, "bar if not years = 1");
+    // From the paper just ahead: those of papers 0 (looked), 1 (from 0), and no others.
+    due("right, from the paper ahead", x.world(311_242, 3, 1), 6);
+    Tapes.law(x, "bar if year = 2 and years = 2;bar if year = 3 and not years = 2");
+    due("the fourth has no source any more", x.world(311_242, 4, 3), 15 + 3 + 3 + 15);
+  }
+
+  /** 870,345 leads to 0 (kin), 12345 (0: not in it), 628841 (kin), 621889 (1: in it), 953857 (1, but none has it). */
+  private static void aSlipByHand() {
+    says("or none of the PAPERS ahead has it: LOOKED: right");
+    SlipTrees x = new SlipTrees();
+    x.thing(1111, 1111, 1234, 1111, 0, 0);
+    Tapes.law(x, "slip to if field = 2 and from = 1234");
+    due("entries", x.world(870_345, 2, 0), 1);
+    due("right", x.world(870_345, 2, 1), 1);
+    due("looked", x.world(870_345, 2, 2), 1);
+    says("it becomes it times 7 and a DRAW of 10,000, modulo 10,000");
+    // Then 113460 (0: a slip), 158350 (field 2), 671873: 1234 times 7 and 1873 is 10511.
+    due("sum", x.world(870_345, 2, 3), 5 + 511);
+  }
+
   /** By how much each entry costs if it is looked alone: look by year and thing, and a slip by what it has become. */
   private static int looks(World w, boolean years, int from) {
     int sum = 0;
@@ -250,9 +288,10 @@ public final class EdgeWorldTest {
     for (int law = 0; law < 4; law++) {
       Tapes.law(x, laws[law]);
       if (law == 1) {
-        says("Then a DRAW of 6: at 0 a SLIP: FIELD a DRAW of 4, it becomes it times 7 and a DRAW of 10,000, modulo 10,000");
+        says("Then a DRAW of 6: at 0 a SLIP: FIELD a DRAW of 4, it becomes it times 7 and a DRAW of 10,000, modulo"
+            + " 10,000");
       }
-      for (int seed : SEEDS[law % 3]) {
+      for (int seed : SEEDS[(law + 1) % 4]) {
         for (int papers : new int[] {2, 5, 8}) {
           World w = new World(seed, papers, right);
           due("sum by " + laws[law] + " of " + seed, x.world(seed, papers, 3), looks(w, law == 0, law - 1));
@@ -266,7 +305,7 @@ public final class EdgeWorldTest {
     SlipTrees x = new SlipTrees();
     int[][] right = tell(x, "ttt");
     Tapes.law(x, "bar if kin;look 1;slip 0;open 0");
-    for (int seed : SEEDS[0]) {
+    for (int seed : SEEDS[3]) {
       World w = new World(seed, 8, right);
       int sum = 0;
       for (Made e : w.entries) {
@@ -385,6 +424,8 @@ public final class EdgeWorldTest {
     spans();
     thingsTold();
     draws();
+    drawsAllAlike();
+    aSlipByHand();
     listsMade();
     kins();
     rightOnes();
